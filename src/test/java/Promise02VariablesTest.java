@@ -1,0 +1,29 @@
+/** Promise 2: the number of variables. */
+public final class Promise02VariablesTest {
+    public static void main(String[] args) {
+        for (int given = -1; given <= 7; given++) {
+            staysInEveryState(given, Math.max(1, Math.min(5, given)));
+        }
+        Checks.finish();
+    }
+
+    private static void staysInEveryState(int given, int due) {
+        CoreEnumerator x = new CoreEnumerator(given, 2);
+        dueVariables(x, "at the start", due);
+        Checks.add(x, 0, CoreEnumerator.SOFT, due, 0, 0);
+        Checks.add(x, 1, CoreEnumerator.HARD, -due, 0, 0);
+        dueVariables(x, "when full", due);
+        x.addClause(CoreEnumerator.SOFT, due + 1, 0, 0);
+        dueVariables(x, "after a refusal", due);
+        x.enumerate();
+        dueVariables(x, "when ready", due);
+        x.emit(CoreEnumerator.CORE);
+        dueVariables(x, "after emitting", due);
+        x.removeClause(0);
+        dueVariables(x, "after removing", due);
+    }
+
+    private static void dueVariables(CoreEnumerator x, String when, int due) {
+        Checks.dueUnchanged(x, "variables() " + when, x::variables, due);
+    }
+}
