@@ -34,6 +34,10 @@ public final class Promise10EnumerateTest {
         Checks.add(x, 2, CoreEnumerator.HARD, -2, 3, 0);
         Checks.add(x, 3, CoreEnumerator.SOFT, 3, -3, 0);
         dueLists(x, new int[] {}, new int[] {10});
+        x.setKind(0, CoreEnumerator.SOFT);
+        dueLists(x, new int[] {}, new int[] {11});
+        x.setKind(2, CoreEnumerator.SOFT);
+        dueLists(x, new int[] {}, new int[] {15});
     }
 
     private static void gapsBetweenSoftSlots() {
