@@ -1,10 +1,18 @@
 /** Promise 2: the number of variables. */
 public final class Promise02VariablesTest {
     public static void main(String[] args) {
+        Checks.sentence("variables() answers V, the clamped value, in every state.",
+                Promise02VariablesTest::everyClampedValueStays);
+        Checks.sentence("It is never refused and changes nothing.", Promise02VariablesTest::changesNothing);
+        Checks.finish();
+    }
+
+    private static void everyClampedValueStays() {
         for (int given = -1; given <= 7; given++) {
             staysInEveryState(given, Math.max(1, Math.min(5, given)));
         }
-        Checks.finish();
+        staysInEveryState(Integer.MIN_VALUE, 1);
+        staysInEveryState(Integer.MAX_VALUE, 5);
     }
 
     private static void staysInEveryState(int given, int due) {
@@ -21,6 +29,12 @@ public final class Promise02VariablesTest {
         dueVariables(x, "after emitting", due);
         x.removeClause(0);
         dueVariables(x, "after removing", due);
+    }
+
+    private static void changesNothing() {
+        for (State state : State.all()) {
+            dueVariables(state.x, state.name, state.variables);
+        }
     }
 
     private static void dueVariables(CoreEnumerator x, String when, int due) {

@@ -1,11 +1,64 @@
 /** Promise 11: the length of a list. */
 public final class Promise11CountTest {
     public static void main(String[] args) {
-        emittingDoesNotChangeIt();
-        emptyLists();
-        badKindComesBeforeNotReady();
-        notReadyIsRefused();
+        Checks.sentence("BAD_KIND if list is neither CORE nor MAXIMAL.",
+                () -> State.eachBadList((state, list) -> dueCount(state.x, list, CoreEnumerator.BAD_KIND)));
+        Checks.sentence("NOT_READY if the object is not ready.", Promise11CountTest::notReadyIsRefused);
+        Checks.sentence("in this order:", Promise11CountTest::badKindComesBeforeNotReady);
+        Checks.sentence("Otherwise it answers the length of the list of that kind, 0 if that list is empty.",
+                Promise11CountTest::answersTheLength, Promise11CountTest::noCore, Promise11CountTest::noMaximal);
+        Checks.sentence("The length includes emitted and not yet emitted masks, so it does not change by emitting.",
+                Promise11CountTest::emittingDoesNotChangeIt);
+        Checks.sentence("The call changes nothing.", Promise11CountTest::changesNothing);
         Checks.finish();
+    }
+
+    private static void notReadyIsRefused() {
+        for (State state : State.notReady()) {
+            dueCounts(state.x, CoreEnumerator.NOT_READY, CoreEnumerator.NOT_READY);
+        }
+        CoreEnumerator x = Checks.halfEmittedExample();
+        x.removeClause(3);
+        dueCounts(x, CoreEnumerator.NOT_READY, CoreEnumerator.NOT_READY);
+        x.enumerate();
+        dueCounts(x, 1, 2);
+    }
+
+    private static void badKindComesBeforeNotReady() {
+        CoreEnumerator x = new CoreEnumerator(1, 1);
+        for (int list : new int[] {Integer.MIN_VALUE, -1, CoreEnumerator.SOFT, CoreEnumerator.HARD, 4, Integer.MAX_VALUE}) {
+            dueCount(x, list, CoreEnumerator.BAD_KIND);
+        }
+        dueCounts(x, CoreEnumerator.NOT_READY, CoreEnumerator.NOT_READY);
+    }
+
+    private static void answersTheLength() {
+        CoreEnumerator x = Checks.example();
+        x.enumerate();
+        dueCounts(x, 2, 3);
+        x.setKind(0, CoreEnumerator.HARD);
+        x.enumerate();
+        dueCounts(x, 2, 2);
+        x.removeClause(1);
+        x.enumerate();
+        dueCounts(x, 1, 2);
+    }
+
+    private static void noCore() {
+        CoreEnumerator x = new CoreEnumerator(1, 1);
+        x.enumerate();
+        dueCounts(x, 0, 1);
+        Checks.add(x, 0, CoreEnumerator.SOFT, 1, 0, 0);
+        x.enumerate();
+        dueCounts(x, 0, 1);
+    }
+
+    private static void noMaximal() {
+        CoreEnumerator x = Checks.object(1, 2, Checks.hard(0, 0, 0), Checks.soft(1, 0, 0));
+        x.enumerate();
+        dueCounts(x, 1, 0);
+        x.emit(CoreEnumerator.CORE);
+        dueCounts(x, 1, 0);
     }
 
     private static void emittingDoesNotChangeIt() {
@@ -20,34 +73,12 @@ public final class Promise11CountTest {
         dueCounts(x, 2, 3);
     }
 
-    private static void emptyLists() {
-        CoreEnumerator x = new CoreEnumerator(1, 1);
-        x.enumerate();
-        dueCounts(x, 0, 1);
-        Checks.add(x, 0, CoreEnumerator.HARD, 0, 0, 0);
-        x.enumerate();
-        dueCounts(x, 1, 0);
-    }
-
-    private static void badKindComesBeforeNotReady() {
-        CoreEnumerator unready = Checks.example();
-        CoreEnumerator ready = Checks.halfEmittedExample();
-        for (int far : Checks.FAR_INTS) {
-            dueCount(unready, far, CoreEnumerator.BAD_KIND);
-            dueCount(ready, far, CoreEnumerator.BAD_KIND);
+    private static void changesNothing() {
+        for (State state : State.ready()) {
+            int cores = state.x.count(CoreEnumerator.CORE);
+            int maximals = state.x.count(CoreEnumerator.MAXIMAL);
+            dueCounts(state.x, cores, maximals);
         }
-        for (int list : new int[] {CoreEnumerator.SOFT, CoreEnumerator.HARD, 4}) {
-            dueCount(unready, list, CoreEnumerator.BAD_KIND);
-            dueCount(ready, list, CoreEnumerator.BAD_KIND);
-        }
-    }
-
-    private static void notReadyIsRefused() {
-        CoreEnumerator x = Checks.halfEmittedExample();
-        x.removeClause(3);
-        dueCounts(x, CoreEnumerator.NOT_READY, CoreEnumerator.NOT_READY);
-        x.enumerate();
-        dueCounts(x, 1, 2);
     }
 
     private static void dueCounts(CoreEnumerator x, int cores, int maximals) {

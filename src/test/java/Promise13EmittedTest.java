@@ -1,24 +1,62 @@
 /** Promise 13: the emission number. */
 public final class Promise13EmittedTest {
     public static void main(String[] args) {
-        countsUpToTheLength();
-        startsAgainAtZero();
-        refusals();
+        Checks.sentence("BAD_KIND if list is neither CORE nor MAXIMAL.",
+                () -> State.eachBadList((state, list) -> dueNumber(state.x, list, CoreEnumerator.BAD_KIND)));
+        Checks.sentence("NOT_READY if the object is not ready.", Promise13EmittedTest::notReadyIsRefused);
+        Checks.sentence("in this order:", Promise13EmittedTest::badKindComesBeforeNotReady);
+        Checks.sentence("Otherwise it answers the emission number of that list: 0 right after enumerate,"
+                + " at most the length of the list.",
+                Promise13EmittedTest::zeroAfterEnumerate, Promise13EmittedTest::countsUpToTheLength,
+                Promise13EmittedTest::staysZeroForAnEmptyList, Promise13EmittedTest::startsAgainAtZero);
+        Checks.sentence("It changes nothing.", Promise13EmittedTest::changesNothing);
         Checks.finish();
+    }
+
+    private static void notReadyIsRefused() {
+        for (State state : State.notReady()) {
+            dueNumbers(state.x, CoreEnumerator.NOT_READY, CoreEnumerator.NOT_READY);
+        }
+    }
+
+    private static void badKindComesBeforeNotReady() {
+        CoreEnumerator x = Checks.example();
+        for (int list : new int[] {Integer.MIN_VALUE, -1, CoreEnumerator.SOFT, CoreEnumerator.HARD, 4, Integer.MAX_VALUE}) {
+            dueNumber(x, list, CoreEnumerator.BAD_KIND);
+        }
+        dueNumbers(x, CoreEnumerator.NOT_READY, CoreEnumerator.NOT_READY);
+    }
+
+    private static void zeroAfterEnumerate() {
+        for (State state : State.all()) {
+            state.x.enumerate();
+            dueNumbers(state.x, 0, 0);
+        }
     }
 
     private static void countsUpToTheLength() {
         CoreEnumerator x = Checks.example();
         x.enumerate();
         dueNumbers(x, 0, 0);
-        for (int i = 1; i <= 5; i++) {
+        for (int i = 1; i <= 300; i++) {
             x.emit(CoreEnumerator.MAXIMAL);
             dueNumbers(x, 0, Math.min(3, i));
         }
-        for (int i = 1; i <= 5; i++) {
+        for (int i = 1; i <= 300; i++) {
             x.emit(CoreEnumerator.CORE);
             dueNumbers(x, Math.min(2, i), 3);
         }
+    }
+
+    private static void staysZeroForAnEmptyList() {
+        CoreEnumerator x = new CoreEnumerator(1, 1);
+        x.enumerate();
+        x.emit(CoreEnumerator.CORE);
+        dueNumbers(x, 0, 0);
+        Checks.add(x, 0, CoreEnumerator.HARD, 0, 0, 0);
+        x.enumerate();
+        x.emit(CoreEnumerator.MAXIMAL);
+        dueNumbers(x, 0, 0);
     }
 
     private static void startsAgainAtZero() {
@@ -33,26 +71,20 @@ public final class Promise13EmittedTest {
         dueNumbers(x, 0, 0);
     }
 
-    private static void refusals() {
-        CoreEnumerator unready = Checks.example();
-        CoreEnumerator ready = Checks.halfEmittedExample();
-        dueNumbers(unready, CoreEnumerator.NOT_READY, CoreEnumerator.NOT_READY);
-        for (int far : Checks.FAR_INTS) {
-            dueEmitted(unready, far, CoreEnumerator.BAD_KIND);
-            dueEmitted(ready, far, CoreEnumerator.BAD_KIND);
-        }
-        for (int list : new int[] {CoreEnumerator.SOFT, CoreEnumerator.HARD, 4}) {
-            dueEmitted(unready, list, CoreEnumerator.BAD_KIND);
-            dueEmitted(ready, list, CoreEnumerator.BAD_KIND);
+    private static void changesNothing() {
+        for (State state : State.ready()) {
+            int cores = state.x.emitted(CoreEnumerator.CORE);
+            int maximals = state.x.emitted(CoreEnumerator.MAXIMAL);
+            dueNumbers(state.x, cores, maximals);
         }
     }
 
     private static void dueNumbers(CoreEnumerator x, int cores, int maximals) {
-        dueEmitted(x, CoreEnumerator.CORE, cores);
-        dueEmitted(x, CoreEnumerator.MAXIMAL, maximals);
+        dueNumber(x, CoreEnumerator.CORE, cores);
+        dueNumber(x, CoreEnumerator.MAXIMAL, maximals);
     }
 
-    private static void dueEmitted(CoreEnumerator x, int list, int due) {
+    private static void dueNumber(CoreEnumerator x, int list, int due) {
         Checks.dueUnchanged(x, "emitted(" + list + ")", () -> x.emitted(list), due);
     }
 }

@@ -46,7 +46,7 @@ public final class PublicFaceTest {
                 got.put(field.getName(), field.getInt(null));
             }
         }
-        dueEqual("the visible fields", got, dueConstants());
+        Checks.dueEqual("the visible fields", got, dueConstants());
     }
 
     private static void onlyTheFaceIsVisible() {
@@ -75,8 +75,8 @@ public final class PublicFaceTest {
                 "public emitted[int] int",
                 "public verdict[int] int",
                 "public greatestOpen[] int"));
-        dueEqual("the visible methods", got, due);
-        dueEqual("the class", Modifier.toString(CoreEnumerator.class.getModifiers()), "public final");
+        Checks.dueEqual("the visible methods", got, due);
+        Checks.dueEqual("the class", Modifier.toString(CoreEnumerator.class.getModifiers()), "public final");
         Checks.due("the nested classes", CoreEnumerator.class.getDeclaredClasses().length, 0);
     }
 
@@ -91,11 +91,5 @@ public final class PublicFaceTest {
 
     private static String describe(Member member, Class<?>[] parameters) {
         return Modifier.toString(member.getModifiers()) + " " + member.getName() + Arrays.toString(parameters);
-    }
-
-    private static void dueEqual(String what, Object got, Object want) {
-        if (!got.equals(want)) {
-            Checks.report(what + ": got " + got + ", due is " + want);
-        }
     }
 }
