@@ -3,7 +3,8 @@ public final class Promise02VariablesTest {
     public static void main(String[] args) {
         Checks.sentence("variables() answers V, the clamped value, in every state.",
                 Promise02VariablesTest::everyClampedValueStays);
-        Checks.sentence("It is never refused and changes nothing.", Promise02VariablesTest::changesNothing);
+        Checks.sentence("It is never refused and changes nothing.",
+                Promise02VariablesTest::neverRefused, () -> State.dueNoTrace(state -> state.x.variables()));
         Checks.finish();
     }
 
@@ -31,7 +32,7 @@ public final class Promise02VariablesTest {
         dueVariables(x, "after removing", due);
     }
 
-    private static void changesNothing() {
+    private static void neverRefused() {
         for (State state : State.all()) {
             dueVariables(state.x, state.name, state.variables);
         }

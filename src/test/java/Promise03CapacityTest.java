@@ -3,7 +3,8 @@ public final class Promise03CapacityTest {
     public static void main(String[] args) {
         Checks.sentence("capacity() answers C, the clamped value, in every state, however many slots are occupied.",
                 Promise03CapacityTest::everyClampedValueStays);
-        Checks.sentence("It is never refused and changes nothing.", Promise03CapacityTest::changesNothing);
+        Checks.sentence("It is never refused and changes nothing.",
+                Promise03CapacityTest::neverRefused, () -> State.dueNoTrace(state -> state.x.capacity()));
         Checks.finish();
     }
 
@@ -34,7 +35,7 @@ public final class Promise03CapacityTest {
         }
     }
 
-    private static void changesNothing() {
+    private static void neverRefused() {
         for (State state : State.all()) {
             dueCapacity(state.x, state.name, state.capacity);
         }

@@ -8,7 +8,8 @@ public final class Promise05RemoveClauseTest {
                 Promise05RemoveClauseTest::emptiedSlotsAreRefused);
         Checks.sentence("Otherwise the slot becomes empty, the object becomes not ready (or stays so),"
                 + " and the answer is DONE.",
-                Promise05RemoveClauseTest::theSlotBecomesEmpty, Promise05RemoveClauseTest::removedClausesHaveNoInfluence,
+                Promise05RemoveClauseTest::theSlotBecomesEmpty,
+                Promise05RemoveClauseTest::removedClausesHaveNoInfluence,
                 Promise05RemoveClauseTest::becomesNotReady, Promise05RemoveClauseTest::staysNotReady);
         Checks.sentence("The clause may be SOFT or HARD.", Promise05RemoveClauseTest::bothKindsAreRemoved);
         Checks.sentence("All other clauses stay in their slots, with their literals and kinds.",

@@ -14,7 +14,7 @@ public final class Promise07LiteralTest {
                 Promise07LiteralTest::answersLiteralsAsGiven, Promise07LiteralTest::absentLiteralsAreZero,
                 Promise07LiteralTest::theLastSlotIsRead);
         Checks.sentence("It works whether the object is ready or not, and changes nothing.",
-                Promise07LiteralTest::worksInEveryState);
+                Promise07LiteralTest::worksInEveryState, () -> State.dueNoTrace(Promise07LiteralTest::readAll));
         Checks.finish();
     }
 
@@ -102,6 +102,14 @@ public final class Promise07LiteralTest {
                         dueLiteral(state.x, slot, position, full[slot][position]);
                     }
                 }
+            }
+        }
+    }
+
+    private static void readAll(State state) {
+        for (int slot = 0; slot < state.capacity; slot++) {
+            for (int position = 0; position < 3; position++) {
+                state.x.literal(slot, position);
             }
         }
     }

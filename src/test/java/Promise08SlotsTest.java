@@ -9,7 +9,9 @@ public final class Promise08SlotsTest {
                 Promise08SlotsTest::noClauseOfThatKind);
         Checks.sentence("So slots(SOFT) is F.", Promise08SlotsTest::softSlotsAreTheWholeSet);
         Checks.sentence("It works whether the object is ready or not, and changes nothing.",
-                Promise08SlotsTest::worksInEveryState);
+                Promise08SlotsTest::worksInEveryState,
+                () -> State.dueNoTrace(state -> state.x.slots(CoreEnumerator.SOFT)),
+                () -> State.dueNoTrace(state -> state.x.slots(CoreEnumerator.HARD)));
         Checks.finish();
     }
 

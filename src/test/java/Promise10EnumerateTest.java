@@ -105,15 +105,8 @@ public final class Promise10EnumerateTest {
         Checks.dueLists(x, Checks.masks(1, 2, 4, 8, 16, 32, 64, 128), Checks.masks(0));
     }
 
-    /** Eight clauses that exclude one assignment of three variables each: only all together are a core. */
     private static void eightMaximalsOfSevenSlots() {
-        CoreEnumerator x = new CoreEnumerator(3, 8);
-        for (int slot = 0; slot < 8; slot++) {
-            int a = (slot & 1) == 0 ? 1 : -1;
-            int b = (slot & 2) == 0 ? 2 : -2;
-            int c = (slot & 4) == 0 ? 3 : -3;
-            Checks.add(x, slot, CoreEnumerator.SOFT, a, b, c);
-        }
+        CoreEnumerator x = Checks.eightExclusions();
         Checks.dueLists(x, Checks.masks(255), Checks.masks(254, 253, 251, 247, 239, 223, 191, 127));
     }
 

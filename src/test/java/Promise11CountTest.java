@@ -9,7 +9,9 @@ public final class Promise11CountTest {
                 Promise11CountTest::answersTheLength, Promise11CountTest::noCore, Promise11CountTest::noMaximal);
         Checks.sentence("The length includes emitted and not yet emitted masks, so it does not change by emitting.",
                 Promise11CountTest::emittingDoesNotChangeIt);
-        Checks.sentence("The call changes nothing.", Promise11CountTest::changesNothing);
+        Checks.sentence("The call changes nothing.",
+                () -> State.dueNoTrace(state -> state.x.count(CoreEnumerator.CORE)),
+                () -> State.dueNoTrace(state -> state.x.count(CoreEnumerator.MAXIMAL)));
         Checks.finish();
     }
 
@@ -26,7 +28,7 @@ public final class Promise11CountTest {
 
     private static void badKindComesBeforeNotReady() {
         CoreEnumerator x = new CoreEnumerator(1, 1);
-        for (int list : new int[] {Integer.MIN_VALUE, -1, CoreEnumerator.SOFT, CoreEnumerator.HARD, 4, Integer.MAX_VALUE}) {
+        for (int list : Checks.NO_LISTS) {
             dueCount(x, list, CoreEnumerator.BAD_KIND);
         }
         dueCounts(x, CoreEnumerator.NOT_READY, CoreEnumerator.NOT_READY);
@@ -71,14 +73,6 @@ public final class Promise11CountTest {
             x.emit(CoreEnumerator.MAXIMAL);
         }
         dueCounts(x, 2, 3);
-    }
-
-    private static void changesNothing() {
-        for (State state : State.ready()) {
-            int cores = state.x.count(CoreEnumerator.CORE);
-            int maximals = state.x.count(CoreEnumerator.MAXIMAL);
-            dueCounts(state.x, cores, maximals);
-        }
     }
 
     private static void dueCounts(CoreEnumerator x, int cores, int maximals) {

@@ -71,7 +71,7 @@ public final class Promise12EmitTest {
 
     private static void badKindComesBeforeNotReady() {
         CoreEnumerator x = Checks.example();
-        for (int list : new int[] {Integer.MIN_VALUE, -1, CoreEnumerator.SOFT, CoreEnumerator.HARD, 4, Integer.MAX_VALUE}) {
+        for (int list : Checks.NO_LISTS) {
             refused(x, list, CoreEnumerator.BAD_KIND);
         }
     }
@@ -91,7 +91,7 @@ public final class Promise12EmitTest {
         x.enumerate();
         x.emit(CoreEnumerator.MAXIMAL);
         refuseBoth(x, CoreEnumerator.NONE);
-        for (int list : new int[] {Integer.MIN_VALUE, -1, CoreEnumerator.SOFT, CoreEnumerator.HARD, 4, Integer.MAX_VALUE}) {
+        for (int list : Checks.NO_LISTS) {
             refused(x, list, CoreEnumerator.BAD_KIND);
         }
     }

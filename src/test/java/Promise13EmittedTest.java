@@ -9,7 +9,9 @@ public final class Promise13EmittedTest {
                 + " at most the length of the list.",
                 Promise13EmittedTest::zeroAfterEnumerate, Promise13EmittedTest::countsUpToTheLength,
                 Promise13EmittedTest::staysZeroForAnEmptyList, Promise13EmittedTest::startsAgainAtZero);
-        Checks.sentence("It changes nothing.", Promise13EmittedTest::changesNothing);
+        Checks.sentence("It changes nothing.",
+                () -> State.dueNoTrace(state -> state.x.emitted(CoreEnumerator.CORE)),
+                () -> State.dueNoTrace(state -> state.x.emitted(CoreEnumerator.MAXIMAL)));
         Checks.finish();
     }
 
@@ -21,7 +23,7 @@ public final class Promise13EmittedTest {
 
     private static void badKindComesBeforeNotReady() {
         CoreEnumerator x = Checks.example();
-        for (int list : new int[] {Integer.MIN_VALUE, -1, CoreEnumerator.SOFT, CoreEnumerator.HARD, 4, Integer.MAX_VALUE}) {
+        for (int list : Checks.NO_LISTS) {
             dueNumber(x, list, CoreEnumerator.BAD_KIND);
         }
         dueNumbers(x, CoreEnumerator.NOT_READY, CoreEnumerator.NOT_READY);
@@ -69,14 +71,6 @@ public final class Promise13EmittedTest {
         dueNumbers(x, CoreEnumerator.NOT_READY, CoreEnumerator.NOT_READY);
         x.enumerate();
         dueNumbers(x, 0, 0);
-    }
-
-    private static void changesNothing() {
-        for (State state : State.ready()) {
-            int cores = state.x.emitted(CoreEnumerator.CORE);
-            int maximals = state.x.emitted(CoreEnumerator.MAXIMAL);
-            dueNumbers(state.x, cores, maximals);
-        }
     }
 
     private static void dueNumbers(CoreEnumerator x, int cores, int maximals) {

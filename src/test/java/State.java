@@ -1,6 +1,7 @@
 import java.util.ArrayList;
 import java.util.List;
 import java.util.function.BiPredicate;
+import java.util.function.Consumer;
 
 /** An object in a known state, with what the document's terms say of its slots and masks. */
 final class State {
@@ -70,6 +71,40 @@ final class State {
         List<State> states = all();
         states.removeIf(state -> state.ready);
         return states;
+    }
+
+    /**
+     * Makes the calls on one of two equal objects: whatever is asked later, both must answer alike.
+     * This also finds a change that the reading calls in Checks.observe would make themselves.
+     */
+    static void dueNoTrace(Consumer<State> calls) {
+        List<State> states = all();
+        List<State> twins = all();
+        for (int i = 0; i < states.size(); i++) {
+            State state = states.get(i);
+            calls.accept(state);
+            Checks.dueEqual(state.name + "what comes after", future(state.x), future(twins.get(i).x));
+        }
+    }
+
+    /** The emissions come first, for they alone tell the emission numbers without another call. */
+    private static String future(CoreEnumerator x) {
+        StringBuilder seen = new StringBuilder();
+        appendEmissions(seen, x);
+        seen.append(Checks.observe(x));
+        for (int mask = 0; mask < 256; mask++) {
+            seen.append(" w").append(x.witness(mask));
+        }
+        seen.append(" enumerate ").append(x.enumerate());
+        appendEmissions(seen, x);
+        return seen.append(Checks.observe(x)).toString();
+    }
+
+    private static void appendEmissions(StringBuilder seen, CoreEnumerator x) {
+        for (int i = 0; i < 40; i++) {
+            seen.append(" c").append(x.emit(CoreEnumerator.CORE));
+            seen.append(" m").append(x.emit(CoreEnumerator.MAXIMAL));
+        }
     }
 
     static void eachOccupiedSlot(Probe probe) {

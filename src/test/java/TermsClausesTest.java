@@ -7,7 +7,8 @@ public final class TermsClausesTest {
         Checks.sentence("An int 0 .. 2^V - 1.", TermsClausesTest::theLeastAndTheGreatestAssignment);
         Checks.sentence("Bit v-1 (value 1 << (v-1)) is 1 when variable v is true and 0 when it is false.",
                 TermsClausesTest::oneTrueVariableIsOneBit);
-        Checks.sentence("An assignment gives a value to every variable.", TermsClausesTest::variablesInNoClauseAreFalse);
+        Checks.sentence("An assignment gives a value to every variable.",
+                TermsClausesTest::variablesInNoClauseAreFalse);
         Checks.sentence("A clause has three positions 0, 1, 2, each holding a literal or 0 (absent).",
                 TermsClausesTest::threePositions);
         Checks.sentence("It is true under an assignment when at least one of its literals is true there;"
@@ -27,9 +28,11 @@ public final class TermsClausesTest {
 
     private static void variablesAreNumberedFromOne() {
         for (int variables = 1; variables <= 5; variables++) {
-            CoreEnumerator x = Checks.object(variables, 3, Checks.soft(1, variables, 0), Checks.soft(0, -1, -variables));
-            Checks.due("literal V+1", x.addClause(CoreEnumerator.SOFT, variables + 1, 0, 0), CoreEnumerator.BAD_LITERAL);
-            Checks.due("literal -V-1", x.addClause(CoreEnumerator.SOFT, 0, -variables - 1, 0), CoreEnumerator.BAD_LITERAL);
+            int above = variables + 1;
+            CoreEnumerator x = Checks.object(variables, 3,
+                    Checks.soft(1, variables, 0), Checks.soft(0, -1, -variables));
+            Checks.due("literal V+1", x.addClause(CoreEnumerator.SOFT, above, 0, 0), CoreEnumerator.BAD_LITERAL);
+            Checks.due("literal -V-1", x.addClause(CoreEnumerator.SOFT, 0, -above, 0), CoreEnumerator.BAD_LITERAL);
             Checks.add(x, 2, CoreEnumerator.SOFT, 0, 0, 0);
             dueWitness(x, 4, CoreEnumerator.NONE);
         }
@@ -139,7 +142,9 @@ public final class TermsClausesTest {
     }
 
     private static void oppositeLiteralsAreAlwaysTrue() {
-        int[][] clauses = {{2, -2, 0}, {-2, 2, 0}, {2, 0, -2}, {-2, 0, 2}, {0, 2, -2}, {0, -2, 2}, {2, -2, 2}, {-2, 2, 1}};
+        int[][] clauses = {
+            {2, -2, 0}, {-2, 2, 0}, {2, 0, -2}, {-2, 0, 2}, {0, 2, -2}, {0, -2, 2}, {2, -2, 2}, {-2, 2, 1}
+        };
         for (int[] clause : clauses) {
             for (int assignment = 0; assignment < 4; assignment++) {
                 CoreEnumerator x = Checks.forced(2, 3, assignment);

@@ -1,7 +1,8 @@
 /** The section 'Terms' of the document: masks and subsets. */
 public final class TermsMasksTest {
     public static void main(String[] args) {
-        Checks.sentence("A set of slots is an int, slot s being bit s (value 1 << s).", TermsMasksTest::everySlotIsItsBit);
+        Checks.sentence("A set of slots is an int, slot s being bit s (value 1 << s).",
+                TermsMasksTest::everySlotIsItsBit);
         Checks.sentence("F is the set of slots that hold SOFT clauses at the moment.",
                 TermsMasksTest::theWholeFollowsTheClauses);
         Checks.sentence("A subset is any mask M with M >= 0 and no bit outside F;"

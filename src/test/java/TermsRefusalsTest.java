@@ -1,18 +1,18 @@
-import java.util.List;
-
 /** The section 'Terms' of the document: readiness and refusals. */
 public final class TermsRefusalsTest {
     public static void main(String[] args) {
-        Checks.sentence("They say how many masks of each list have been emitted.", TermsRefusalsTest::numbersFollowEmissions);
+        Checks.sentence("They say how many masks of each list have been emitted.",
+                TermsRefusalsTest::numbersFollowEmissions);
         Checks.sentence("Every successful addClause, removeClause or setKind makes the object not ready;"
                 + " only enumerate makes it ready.",
                 TermsRefusalsTest::changesMakeNotReady, TermsRefusalsTest::onlyEnumerateMakesReady);
         Checks.sentence("No other call changes readiness.", TermsRefusalsTest::otherCallsKeepReady);
         Checks.sentence("For each call the conditions for refusal are considered in the order in which they are"
-                + " listed below, and the first that applies gives the answer.", TermsRefusalsTest::theFirstRefusalCounts);
+                + " listed below, and the first that applies gives the answer.",
+                TermsRefusalsTest::theFirstRefusalCounts);
         Checks.sentence("A refused call, that is one that answers any of the constants -11 .. -19,"
                 + " changes nothing at all: no slot, no clause, no kind, not the readiness and no emission number.",
-                TermsRefusalsTest::refusedCallsChangeNothing);
+                () -> State.dueNoTrace(TermsRefusalsTest::makeRefusedCalls));
         Checks.finish();
     }
 
@@ -115,20 +115,6 @@ public final class TermsRefusalsTest {
         }
     }
 
-    /** A twin on which the refused calls were not made answers alike, also to all that comes after. */
-    private static void refusedCallsChangeNothing() {
-        List<State> states = State.all();
-        List<State> twins = State.all();
-        for (int i = 0; i < states.size(); i++) {
-            State state = states.get(i);
-            CoreEnumerator twin = twins.get(i).x;
-            String before = Checks.observe(state.x);
-            makeRefusedCalls(state);
-            Checks.dueEqual(state.name + "after refused calls", Checks.observe(state.x), before);
-            Checks.dueEqual(state.name + "what comes after", aftermath(state.x), aftermath(twin));
-        }
-    }
-
     private static void makeRefusedCalls(State state) {
         for (int bad : Checks.PROBES) {
             makeRefusedCalls(state, bad);
@@ -144,9 +130,17 @@ public final class TermsRefusalsTest {
             dueRefused(state, "addClause(HARD, 0, 0, 0)", x.addClause(CoreEnumerator.HARD, 0, 0, 0));
         }
         for (int list = CoreEnumerator.CORE; list <= CoreEnumerator.MAXIMAL; list++) {
+            if (!state.ready) {
+                dueRefused(state, "count(" + list + ")", x.count(list));
+                dueRefused(state, "emitted(" + list + ")", x.emitted(list));
+            }
             if (!state.ready || x.emitted(list) == x.count(list)) {
                 dueRefused(state, "emit(" + list + ")", x.emit(list));
             }
+        }
+        if (!state.ready) {
+            dueRefused(state, "verdict(0)", x.verdict(0));
+            dueRefused(state, "greatestOpen()", x.greatestOpen());
         }
     }
 
@@ -184,24 +178,5 @@ public final class TermsRefusalsTest {
 
     private static void dueRefused(State state, String call, int got) {
         Checks.due(state.name + call + " is refused", got >= -19 && got <= -11 ? 1 : 0, 1);
-    }
-
-    /** Everything the object answers from here on, with its lists emitted before and after enumerate. */
-    private static String aftermath(CoreEnumerator x) {
-        StringBuilder seen = new StringBuilder(Checks.observe(x));
-        appendEmissions(seen, x);
-        for (int mask = 0; mask < 256; mask++) {
-            seen.append(" w").append(x.witness(mask));
-        }
-        seen.append(" enumerate ").append(x.enumerate());
-        appendEmissions(seen, x);
-        return seen.append(Checks.observe(x)).toString();
-    }
-
-    private static void appendEmissions(StringBuilder seen, CoreEnumerator x) {
-        for (int i = 0; i < 40; i++) {
-            seen.append(" c").append(x.emit(CoreEnumerator.CORE));
-            seen.append(" m").append(x.emit(CoreEnumerator.MAXIMAL));
-        }
     }
 }
