@@ -189,7 +189,7 @@ public final class CoreEnumerator {
         if (!ready) {
             return NOT_READY;
         }
-        for (int mask = softSlots; mask >= 0; mask--) {
+        for (int mask = MOST_SUBSETS - 1; mask >= 0; mask--) {
             if (isSubset(mask) && judge(mask) == OPEN) {
                 return mask;
             }
@@ -302,14 +302,14 @@ public final class CoreEnumerator {
     }
 
     private void findSatisfiableSubsets() {
-        for (int mask = 0; mask <= softSlots; mask++) {
+        for (int mask = 0; mask < MOST_SUBSETS; mask++) {
             satisfiable[mask] = isSubset(mask) && leastAssignment(mask) != NONE;
         }
     }
 
     private void listCores() {
         coreCount = 0;
-        for (int mask = 0; mask <= softSlots; mask++) {
+        for (int mask = 0; mask < MOST_SUBSETS; mask++) {
             if (isSubset(mask) && isCore(mask)) {
                 cores[coreCount] = mask;
                 coreCount++;
@@ -319,7 +319,7 @@ public final class CoreEnumerator {
 
     private void listMaximals() {
         maximalCount = 0;
-        for (int mask = softSlots; mask >= 0; mask--) {
+        for (int mask = MOST_SUBSETS - 1; mask >= 0; mask--) {
             if (isSubset(mask) && isMaximal(mask)) {
                 maximals[maximalCount] = mask;
                 maximalCount++;
